@@ -30,13 +30,28 @@ public final class ModelTest {
     }
 
     private void go() {
-        for (call = 0; call < CALLS && check.isClean(); call++) {
+        if (run % 5 == 4) {
+            useUpNumbers();
+        }
+        for (; call < CALLS && check.isClean(); call++) {
             change();
             ask(draw(100) < 50 ? draw(64) : odd());
             check.dueTrue("run " + run + ", call " + call + ": weak heap", model.isWeakHeap());
         }
         // Asking of all changes nothing, so the object may be asked more than a run is promised.
         askAll();
+    }
+
+    /** Leaves 20 numbers, so that the run comes to the 500th duke while there is room in the heap. */
+    private void useUpNumbers() {
+        for (int come = 0; come < 480; come += 20) {
+            for (int leaving = model.dukes() + 20 - 63; leaving > 0; leaving--) {
+                same("leave()", () -> dukes.leave(), model.leave());
+                call++;
+            }
+            coach(20, draw(1000), draw(1000));
+            call++;
+        }
     }
 
     private int draw(int below) {

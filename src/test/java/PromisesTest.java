@@ -188,6 +188,22 @@ public final class PromisesTest {
         check.dueThrow("leave() of none", STATE, () -> x.leave());
         check.due("a number is not used again", x.come(9), 4);
         sideAboveAGoneBerthStays();
+        aBerthBegunAnewHasTheSideZero();
+    }
+
+    private static void aBerthBegunAnewHasTheSideZero() {
+        SnoringDukes x = four();
+        x.leave();
+        x.leave();
+        // Berth 1 had the side 1 in its day, and berth 3 too.
+        x.come(60);
+        x.come(70);
+        lie("berths begun anew", x, new int[] {2, 0, 4, 5}, new int[] {0, 0, 0, 0});
+        SnoringDukes y = four();
+        y.leave();
+        check.due("come(99)", y.come(99), 4);
+        check.due("berthOf(4), who rises nowhere", y.berthOf(4), 3);
+        check.due("sideOf(3), which was 1 before", y.sideOf(3), 0);
     }
 
     private static void sideAboveAGoneBerthStays() {
