@@ -1,9 +1,14 @@
 import java.util.function.IntSupplier;
 
-/** Long runs of calls, each answer held against the model's. The calls are drawn, but always the same. */
+/**
+ * Runs of calls, each answer held against the model's. The calls are drawn, but always the same; a run ends with its
+ * 512th call, as what later calls answer is free.
+ */
 public final class ModelTest {
-    private static final int RUNS = 120;
+    private static final int RUNS = 1500;
     private static final int CALLS = 512;
+    private static final int HEAP_QUESTIONS = 6;
+    private static final int BERTH_QUESTIONS = 6;
     private static final int[] ODD_NUMBERS = {
         -1, 62, 63, 64, 499, 500, 501, 999, 1000, Integer.MIN_VALUE, Integer.MAX_VALUE,
     };
@@ -33,24 +38,31 @@ public final class ModelTest {
         if (run % 5 == 4) {
             useUpNumbers();
         }
-        for (; call < CALLS && check.isClean(); call++) {
+        while (call < CALLS && check.isClean()) {
+            if (run % 2 == 0 && CALLS - call <= callsToAskAll()) {
+                askAll();
+            }
             change();
-            ask(draw(100) < 50 ? draw(64) : odd());
             check.dueTrue("run " + run + ", call " + call + ": weak heap", model.isWeakHeap());
+            for (int questions = draw(4); questions > 0; questions--) {
+                ask(draw(100) < 50 ? draw(64) : odd());
+            }
         }
-        // Asking of all changes nothing, so the object may be asked more than a run is promised.
-        askAll();
     }
 
-    /** Leaves 20 numbers, so that the run comes to the 500th duke while there is room in the heap. */
+    /** In 462 calls; leaves up to six numbers, so that the run comes to the 500th duke, or begins behind him. */
     private void useUpNumbers() {
         for (int come = 0; come < 480; come += 20) {
-            for (int leaving = model.dukes() + 20 - 63; leaving > 0; leaving--) {
-                same("leave()", () -> dukes.leave(), model.leave());
-                call++;
-            }
+            makeRoomForTwenty();
             coach(20, draw(1000), draw(1000));
-            call++;
+        }
+        makeRoomForTwenty();
+        coach(14 + draw(7), draw(1000), draw(1000));
+    }
+
+    private void makeRoomForTwenty() {
+        for (int leaving = model.dukes() + 20 - 63; leaving > 0; leaving--) {
+            leave();
         }
     }
 
@@ -82,60 +94,118 @@ public final class ModelTest {
                 coach(draw(100) < 6 ? odd() : draw(22), loudness(), loudness());
             } else {
                 int loudness = loudness();
-                same("come(" + loudness + ")", () -> dukes.come(loudness), model.come(loudness));
+                same("come(" + loudness + ")", () -> dukes.come(loudness), () -> model.come(loudness));
             }
         } else if (kind < arrivals + 8) {
             int duke = someDuke();
-            same("fetch(" + duke + ")", () -> dukes.fetch(duke), model.fetch(duke));
+            same("fetch(" + duke + ")", () -> dukes.fetch(duke), () -> model.fetch(duke));
         } else if (kind < arrivals + 20) {
             int duke = someDuke();
             int loud = draw(100) < 20 ? loudness() : draw(1 + Math.max(0, model.loudnessIn(model.berthOf(duke))));
-            same("hush(" + duke + ", " + loud + ")", () -> dukes.hush(duke, loud), model.hush(duke, loud));
+            same("hush(" + duke + ", " + loud + ")", () -> dukes.hush(duke, loud), () -> model.hush(duke, loud));
         } else {
-            same("leave()", () -> dukes.leave(), model.leave());
+            leave();
         }
+    }
+
+    private void leave() {
+        same("leave()", () -> dukes.leave(), () -> model.leave());
     }
 
     private void coach(int many, int first, int step) {
         same("coach(" + many + ", " + first + ", " + step + ")",
-            () -> dukes.coach(many, first, step), model.coach(many, first, step));
+            () -> dukes.coach(many, first, step), () -> model.coach(many, first, step));
     }
 
     private void ask(int number) {
-        askOfDuke(draw(100) < 50 ? someDuke() : number);
-        askOfBerth(number);
-        same("comparisonsToEmpty()", () -> dukes.comparisonsToEmpty(), model.comparisonsToEmpty());
-        same("dukes()", () -> dukes.dukes(), model.dukes());
-        same("quietest()", () -> dukes.quietest(), model.quietest());
-        same("flipped()", () -> dukes.flipped(), model.flipped());
-        same("comparisons()", () -> dukes.comparisons(), model.comparisons);
-        same("changes()", () -> dukes.changes(), model.changes);
+        switch (draw(3)) {
+            case 0:
+                askOfDuke(draw(100) < 50 ? someDuke() : number, draw(2));
+                break;
+            case 1:
+                askOfBerth(number, draw(BERTH_QUESTIONS));
+                break;
+            default:
+                askOfHeap(draw(HEAP_QUESTIONS));
+        }
+    }
+
+    private int callsToAskAll() {
+        return HEAP_QUESTIONS + (model.dukes() + 2) * (BERTH_QUESTIONS + 2);
     }
 
     private void askAll() {
-        for (int number = -2; number < 503; number++) {
-            askOfDuke(number);
+        for (int kind = 0; kind < HEAP_QUESTIONS; kind++) {
+            askOfHeap(kind);
         }
-        for (int berth = -2; berth < 66; berth++) {
-            askOfBerth(berth);
+        for (int berth = -1; berth <= model.dukes(); berth++) {
+            for (int kind = 0; kind < BERTH_QUESTIONS; kind++) {
+                askOfBerth(berth, kind);
+            }
+            int duke = model.dukeIn(berth);
+            askOfDuke(duke, 0);
+            askOfDuke(duke, 1);
         }
     }
 
-    private void askOfDuke(int duke) {
-        same("berthOf(" + duke + ")", () -> dukes.berthOf(duke), model.berthOf(duke));
-        same("quieterThan(" + duke + ")", () -> dukes.quieterThan(duke), model.quieterThan(duke));
+    private void askOfHeap(int kind) {
+        switch (kind) {
+            case 0:
+                same("dukes()", () -> dukes.dukes(), () -> model.dukes());
+                break;
+            case 1:
+                same("quietest()", () -> dukes.quietest(), () -> model.quietest());
+                break;
+            case 2:
+                same("flipped()", () -> dukes.flipped(), () -> model.flipped());
+                break;
+            case 3:
+                same("comparisons()", () -> dukes.comparisons(), () -> model.comparisons);
+                break;
+            case 4:
+                same("changes()", () -> dukes.changes(), () -> model.changes);
+                break;
+            default:
+                same("comparisonsToEmpty()", () -> dukes.comparisonsToEmpty(), () -> model.comparisonsToEmpty());
+        }
     }
 
-    private void askOfBerth(int berth) {
-        same("dukeIn(" + berth + ")", () -> dukes.dukeIn(berth), model.dukeIn(berth));
-        same("loudnessIn(" + berth + ")", () -> dukes.loudnessIn(berth), model.loudnessIn(berth));
-        same("sideOf(" + berth + ")", () -> dukes.sideOf(berth), model.sideOf(berth));
-        same("elderOf(" + berth + ")", () -> dukes.elderOf(berth), model.elderOf(berth));
-        same("followersOf(" + berth + ")", () -> dukes.followersOf(berth), model.followersOf(berth));
-        same("leavesAt(" + berth + ")", () -> dukes.leavesAt(berth), model.leavesAt(berth));
+    private void askOfDuke(int duke, int kind) {
+        if (kind == 0) {
+            same("berthOf(" + duke + ")", () -> dukes.berthOf(duke), () -> model.berthOf(duke));
+        } else {
+            same("quieterThan(" + duke + ")", () -> dukes.quieterThan(duke), () -> model.quieterThan(duke));
+        }
     }
 
-    private void same(String what, IntSupplier asks, int want) {
+    private void askOfBerth(int berth, int kind) {
+        switch (kind) {
+            case 0:
+                same("dukeIn(" + berth + ")", () -> dukes.dukeIn(berth), () -> model.dukeIn(berth));
+                break;
+            case 1:
+                same("loudnessIn(" + berth + ")", () -> dukes.loudnessIn(berth), () -> model.loudnessIn(berth));
+                break;
+            case 2:
+                same("sideOf(" + berth + ")", () -> dukes.sideOf(berth), () -> model.sideOf(berth));
+                break;
+            case 3:
+                same("elderOf(" + berth + ")", () -> dukes.elderOf(berth), () -> model.elderOf(berth));
+                break;
+            case 4:
+                same("followersOf(" + berth + ")", () -> dukes.followersOf(berth), () -> model.followersOf(berth));
+                break;
+            default:
+                same("leavesAt(" + berth + ")", () -> dukes.leavesAt(berth), () -> model.leavesAt(berth));
+        }
+    }
+
+    private void same(String what, IntSupplier asks, IntSupplier modelled) {
+        if (call >= CALLS) {
+            return;
+        }
+        call++;
+        int want = modelled.getAsInt();
         String told = "run " + run + ", call " + call + ": " + what;
         if (want == DukesModel.BAD_ARGUMENT) {
             check.dueThrow(told, IllegalArgumentException.class, asks);

@@ -1,8 +1,8 @@
 /** Each promise on its own: ordinary inputs, the edges that the document names, and wrong inputs. */
 public final class PromisesTest {
-    private static final Class<IllegalArgumentException> ARGUMENT = IllegalArgumentException.class;
-    private static final Class<IllegalStateException> STATE = IllegalStateException.class;
-    private static final Class<IndexOutOfBoundsException> INDEX = IndexOutOfBoundsException.class;
+    private static final Class<IllegalArgumentException> ARGUMENT = Check.ARGUMENT;
+    private static final Class<IllegalStateException> STATE = Check.STATE;
+    private static final Class<IndexOutOfBoundsException> INDEX = Check.INDEX;
     private static final int[] NEVER_A_NUMBER = {-1, -2, 63, 500, 501, Integer.MIN_VALUE, Integer.MAX_VALUE};
 
     private static Check check = new Check("PromisesTest");
@@ -26,17 +26,9 @@ public final class PromisesTest {
         check.end();
     }
 
-    /**
-     * Told by hand: the berths hold the dukes 3 (20), 1 (30), 2 (40), 0 (50), with the sides 0, 1, 0, 1;
-     * the elder of 3 is 0, over the flipped 1, and the elder of 2 is 1. Four comparisons, three changes.
-     */
+    /** The dukes 3 (20), 1 (30), 2 (40), 0 (50), with the sides 0, 1, 0, 1; four comparisons, three changes. */
     private static SnoringDukes four() {
-        SnoringDukes x = new SnoringDukes();
-        x.come(50);
-        x.come(30);
-        x.come(40);
-        x.come(20);
-        return x;
+        return House.FOUR.make();
     }
 
     private static SnoringDukes coaches(int many) {
@@ -64,17 +56,11 @@ public final class PromisesTest {
     }
 
     private static void lie(String when, SnoringDukes x, int[] dukes, int[] sides) {
-        check.due(when + ": dukes()", x.dukes(), dukes.length);
-        for (int berth = 0; berth < dukes.length; berth++) {
-            check.due(when + ": dukeIn(" + berth + ")", x.dukeIn(berth), dukes[berth]);
-            check.due(when + ": berthOf(" + dukes[berth] + ")", x.berthOf(dukes[berth]), berth);
-            check.due(when + ": sideOf(" + berth + ")", x.sideOf(berth), sides[berth]);
-        }
+        check.dueBerths(when, x, dukes, sides);
     }
 
     private static void cost(String when, SnoringDukes x, int comparisons, int changes) {
-        check.due(when + ": comparisons()", x.comparisons(), comparisons);
-        check.due(when + ": changes()", x.changes(), changes);
+        check.dueCost(when, x, comparisons, changes);
     }
 
     /** Promise 1. */
