@@ -1,7 +1,10 @@
+import java.io.IOException;
 import java.lang.reflect.Constructor;
 import java.lang.reflect.Field;
 import java.lang.reflect.Method;
 import java.lang.reflect.Modifier;
+import java.nio.file.Files;
+import java.nio.file.Path;
 import java.util.ArrayList;
 import java.util.Arrays;
 import java.util.Collections;
@@ -31,21 +34,44 @@ public final class FaceTest {
         "int sideOf(int) throws IndexOutOfBoundsException",
     };
 
-    public static void main(String[] args) {
+    private static final String[] SECTIONS = {
+        "public SnoringDukes(",
+        "---- dukes come and go",
+        "public int come(", "public int coach(", "public int leave(", "public int hush(", "public int fetch(",
+        "---- how they lie",
+        "public int dukes(", "public int quietest(", "public int berthOf(", "public int dukeIn(",
+        "public int loudnessIn(", "public int sideOf(", "public int elderOf(", "public int followersOf(",
+        "public int flipped(",
+        "---- what it cost, and would cost",
+        "public int comparisons(", "public int changes(", "public int comparisonsToEmpty(", "public int leavesAt(",
+        "public int quieterThan(",
+    };
+
+    public static void main(String[] args) throws IOException {
         Check check = new Check("FaceTest");
-        int modifiers = SnoringDukes.class.getModifiers();
-        check.dueTrue("the class is public and final", Modifier.isPublic(modifiers) && Modifier.isFinal(modifiers));
+        checkClass(check);
         checkConstructors(check);
         checkMethods(check);
         checkFields(check);
+        checkSections(check);
         check.end();
+    }
+
+    /** "public final class SnoringDukes", which extends and implements nothing, nor shows a class of its own. */
+    private static void checkClass(Check check) {
+        check.due("modifiers of the class", SnoringDukes.class.getModifiers(), Modifier.PUBLIC | Modifier.FINAL);
+        check.dueTrue("the class extends nothing", SnoringDukes.class.getSuperclass() == Object.class);
+        check.due("how many interfaces", SnoringDukes.class.getInterfaces().length, 0);
+        check.due("how many public classes inside", SnoringDukes.class.getClasses().length, 0);
+        check.dueTrue("the class has no package", SnoringDukes.class.getPackageName().isEmpty());
     }
 
     private static void checkConstructors(Check check) {
         Constructor<?>[] constructors = SnoringDukes.class.getDeclaredConstructors();
         check.due("how many constructors", constructors.length, 1);
         check.dueTrue("the constructor is public, without parameters",
-            Modifier.isPublic(constructors[0].getModifiers()) && constructors[0].getParameterCount() == 0);
+            constructors[0].getModifiers() == Modifier.PUBLIC && constructors[0].getParameterCount() == 0);
+        check.due("what the constructor throws", constructors[0].getExceptionTypes().length, 0);
     }
 
     private static void checkMethods(Check check) {
@@ -72,6 +98,17 @@ public final class FaceTest {
             check.dueTrue(field.getName() + " is private", Modifier.isPrivate(modifiers));
             check.dueTrue(field.getName() + " is final, if static",
                 !Modifier.isStatic(modifiers) || Modifier.isFinal(modifiers));
+        }
+    }
+
+    /** "Ahead of the calls .. the interface says: ---- ..": sections and calls stand in the document's order. */
+    private static void checkSections(Check check) throws IOException {
+        String text = Files.readString(Path.of("src", "main", "java", "SnoringDukes.java"));
+        int before = -1;
+        for (String line : SECTIONS) {
+            int at = text.indexOf(line, before + 1);
+            check.dueTrue("after what stands before it in the document comes: " + line, at >= 0);
+            before = Math.max(before, at);
         }
     }
 

@@ -3,6 +3,8 @@ public final class TermsEdgesTest {
     private static final Check check = new Check("TermsEdgesTest");
 
     public static void main(String[] args) {
+        theElderNeedNotBeTheOneDirectlyAbove();
+        the512thCallIsAnswered();
         berthsAreNumberedFrom0WithoutGaps();
         dukesAreNumberedFrom0AsTheyCome();
         aNumberIsNotUsedAgain();
@@ -17,6 +19,9 @@ public final class TermsEdgesTest {
         risingFromBerth0JoinsNothing();
         risingStopsIfNothingChanges();
         risingGoesOnUpToBerth0();
+        allComparisonsAreCounted();
+        toLayAPileBeneathAnotherCostsOneComparison();
+        oneObjectDoesNotMoveAnother();
         check.end();
     }
 
@@ -29,6 +34,36 @@ public final class TermsEdgesTest {
         check.dueBerths("seven", x, new int[] {0, 1, 2, 3, 4, 5, 6}, new int[7]);
         check.dueCost("seven", x, 6, 0);
         return x;
+    }
+
+    /** "No quieter than one single duke above, who need not be the one directly above", whom he may be quieter than. */
+    private static void theElderNeedNotBeTheOneDirectlyAbove() {
+        SnoringDukes x = new SnoringDukes();
+        x.come(100);
+        x.come(900);
+        x.come(500);
+        // Berth 2 is to the left of the unflipped 1, so 500 is held against 100, and stays below 900.
+        check.dueBerths("500 directly below 900", x, new int[] {0, 1, 2}, new int[3]);
+        check.dueCost("500 directly below 900", x, 2, 0);
+        check.due("500 directly below 900: elderOf(2)", x.elderOf(2), 0);
+        check.due("500 directly below 900: hush(2, 100), as loud as his elder", x.hush(2, 100), 2);
+        check.due("500 directly below 900: hush(2, 99)", x.hush(2, 99), 0);
+        check.dueBerths("99 has risen past 900", x, new int[] {2, 1, 0}, new int[] {0, 0, 1});
+    }
+
+    /** "An object is used for at most 512 calls": the last one of them is no other call than the first. */
+    private static void the512thCallIsAnswered() {
+        SnoringDukes x = House.FOUR.make();
+        for (int call = 5; call < 511; call++) {
+            check.due("call " + call + ": loudnessIn(1)", x.loudnessIn(1), 30);
+        }
+        check.due("call 511: come(10)", x.come(10), 4);
+        check.due("call 512: quietest()", x.quietest(), 4);
+        SnoringDukes y = House.FOUR.make();
+        for (int call = 5; call < 512; call++) {
+            check.due("call " + call + ": comparisonsToEmpty()", y.comparisonsToEmpty(), 2);
+        }
+        check.dueThrow("call 512: come(1000)", Check.ARGUMENT, () -> y.come(1000));
     }
 
     /** "Up to 63 dukes lie in berths, numbered from 0 without gaps." */
@@ -195,5 +230,67 @@ public final class TermsEdgesTest {
         // Berth 6 is to the right of the flipped 3, whose elder, over the flipped 1, is 0.
         check.due("hush(6, 0)", x.hush(6, 0), 0);
         check.dueCost("6 rises by 3, straight to 0", x, 11, 5);
+    }
+
+    /** "All comparisons are counted", by whichever call they are made; and only these calls make any. */
+    private static void allComparisonsAreCounted() {
+        SnoringDukes x = new SnoringDukes();
+        x.come(50);
+        x.come(30);
+        check.due("comparisons() after come(50), come(30)", x.comparisons(), 1);
+        // 10 and 990 are laid into the berths 2 and 3: 3 is joined with 1, 2 with 0, and 1 with 0.
+        check.due("coach(2, 10, 980)", x.coach(2, 10, 980), 3);
+        check.due("comparisons() after coach(2, 10, 980)", x.comparisons(), 4);
+        check.dueBerths("coach(2, 10, 980)", x, new int[] {2, 0, 1, 3}, new int[] {0, 0, 1, 0});
+        x.hush(3, 40);
+        check.due("comparisons() after hush(3, 40), over 50, not over 10", x.comparisons(), 6);
+        check.dueBerths("hush(3, 40)", x, new int[] {2, 3, 1, 0}, new int[] {0, 0, 1, 1});
+        // He rises over 40 and over 10; 40 comes back to the top from berth 3, and is joined with 10 in the flipped 1.
+        check.due("fetch(0)", x.fetch(0), 3);
+        check.due("comparisons() after fetch(0)", x.comparisons(), 9);
+        check.due("comparisonsToEmpty() of three", x.comparisonsToEmpty(), 1);
+        check.due("comparisons() after comparisonsToEmpty()", x.comparisons(), 9);
+        x.leave();
+        check.due("comparisons() after leave() of three", x.comparisons(), 10);
+    }
+
+    /** Each berth but 0 is the top of a pile that a coach lays beneath its elder's. */
+    private static void toLayAPileBeneathAnotherCostsOneComparison() {
+        for (int dukes = 1; dukes <= 20; dukes++) {
+            SnoringDukes alike = new SnoringDukes();
+            check.due("coach(" + dukes + ", 7, 0)", alike.coach(dukes, 7, 0), dukes - 1);
+            check.dueCost("coach(" + dukes + ", 7, 0)", alike, dukes - 1, 0);
+            SnoringDukes down = new SnoringDukes();
+            check.due("coach(" + dukes + ", 999, 999)", down.coach(dukes, 999, 999), dukes - 1);
+        }
+    }
+
+    /** The state is the object's own: calls of two in turn are answered as if each had been alone. */
+    private static void oneObjectDoesNotMoveAnother() {
+        SnoringDukes four = new SnoringDukes();
+        SnoringDukes five = House.FIVE_WITH_FLIPS.make();
+        four.come(50);
+        five.hush(4, 0);
+        four.come(30);
+        five.leave();
+        four.come(40);
+        five.come(1);
+        check.due("the number in one object, with another beside it", four.come(20), 3);
+        check.due("four: leavesAt(3)", four.leavesAt(3), 0);
+        check.due("five: comparisonsToEmpty()", five.comparisonsToEmpty(), fiveAlone().comparisonsToEmpty());
+        check.due("four: comparisonsToEmpty()", four.comparisonsToEmpty(), 2);
+        check.due("five: leavesAt(4)", five.leavesAt(4), fiveAlone().leavesAt(4));
+        check.dueBerths("four", four, new int[] {3, 1, 2, 0}, new int[] {0, 1, 0, 1});
+        check.dueCost("four", four, 4, 3);
+        check.due("five: dukes()", five.dukes(), 5);
+        check.due("five: comparisons()", five.comparisons(), fiveAlone().comparisons());
+    }
+
+    private static SnoringDukes fiveAlone() {
+        SnoringDukes x = House.FIVE_WITH_FLIPS.make();
+        x.hush(4, 0);
+        x.leave();
+        x.come(1);
+        return x;
     }
 }
